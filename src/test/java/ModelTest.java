@@ -1,0 +1,314 @@
+import java.util.ArrayList;
+import java.util.HashMap;
+import java.util.List;
+import java.util.Map;
+import java.util.TreeMap;
+
+/**
+ * Long runs of calls, each answer held against a plain model that is written from the document's
+ * words, with lists and recursion, and shares no code with the class.
+ */
+public final class ModelTest {
+    private static final int RUNS = 600;
+    private static final int CALLS = 512;
+    private static final int[] ODD = {
+        Integer.MIN_VALUE, -2, -1, 5, 9, 80, 81, 82, 1 << 16, Integer.MAX_VALUE};
+
+    private static int wrong = 0;
+    private static long seed = 20261115L;
+
+    public static void main(String[] args) {
+        for (int run = 0; run < RUNS && wrong < 20; run++) {
+            // Every pair of length and digits comes, and pairs that are out of range.
+            int length = run % 13 == 12 ? pick(12) - 4 : 1 + run % 4;
+            int digits = run % 13 == 12 ? pick(9) - 3 : 1 + run / 4 % 3;
+            oneRun(run, length, digits);
+        }
+        System.out.println(wrong == 0 ? "class and model agree" : wrong + " answers differ");
+        if (wrong != 0) {
+            System.exit(1);
+        }
+    }
+
+    /** A fixed row of numbers, the same in every run of the test. */
+    private static int pick(int bound) {
+        seed = seed * 6364136223846793005L + 1442695040888963407L;
+        return (int) ((seed >>> 33) % bound);
+    }
+
+    private static void oneRun(int run, int length, int digits) {
+        CodeBreaker x = new CodeBreaker(length, digits);
+        Model m = new Model(length, digits);
+        int secret = pick(m.codes.size());
+        StringBuilder log = new StringBuilder("new(" + length + ", " + digits + ")");
+        for (int i = 0; i < CALLS && wrong < 20; i++) {
+            step(run, x, m, secret, log);
+        }
+    }
+
+    private static int someCode(Model m) {
+        return pick(12) == 0 ? ODD[pick(ODD.length)] : pick(m.codes.size());
+    }
+
+    private static int somePegs() {
+        return pick(12) == 0 ? ODD[pick(ODD.length)] : pick(5);
+    }
+
+    private static void step(int run, CodeBreaker x, Model m, int secret, StringBuilder log) {
+        int g = someCode(m);
+        switch (pick(20)) {
+            case 0, 1, 2 -> {
+                // Mostly answers for one secret, so that many steps leave few codes, not none.
+                int a = pick(4) == 0 || !m.isCode(g) ? -1 : m.answer(g, secret);
+                int b = a < 0 ? somePegs() : a / 10;
+                int w = a < 0 ? somePegs() : a % 10;
+                due(run, log, "tell(" + g + ", " + b + ", " + w + ")", x.tell(g, b, w), m.tell(g, b, w));
+            }
+            case 3, 4 -> due(run, log, "forget()", x.forget(), m.forget());
+            case 5 -> due(run, log, "told()", x.told(), m.told.size());
+            case 6 -> due(run, log, "possible()", x.possible(), m.possible().size());
+            case 7 -> due(run, log, "code(" + g + ")", x.code(g), m.code(g));
+            case 8 -> {
+                int i = pick(9);
+                due(run, log, "code(" + i + ")", x.code(i), m.code(i));
+            }
+            case 9 -> due(run, log, "canBe(" + g + ")", x.canBe(g) ? 1 : 0, m.possible().contains(g) ? 1 : 0);
+            case 10 -> due(run, log, "parts(" + g + ")", x.parts(g), m.parts(g));
+            case 11 -> due(run, log, "worst(" + g + ")", x.worst(g), m.worst(g));
+            case 12 -> due(run, log, "weight(" + g + ")", x.weight(g), m.weight(g));
+            case 13 -> due(run, log, "safest()", x.safest(), m.best(false));
+            case 14 -> due(run, log, "sharpest()", x.sharpest(), m.best(true));
+            case 15 -> due(run, log, "need()", x.need(), m.need(false));
+            case 16 -> due(run, log, "needKept()", x.needKept(), m.need(true));
+            case 17 -> due(run, log, "first()", x.first(), m.first());
+            case 18 -> due(run, log, "useful()", x.useful(), m.useful());
+            default -> {
+                int s = someCode(m);
+                int want = m.isCode(g) && m.isCode(s) ? m.answer(g, s) : -1;
+                due(run, log, "answer(" + g + ", " + s + ")", x.answer(g, s), want);
+            }
+        }
+    }
+
+    private static void due(int run, StringBuilder log, String call, int got, int want) {
+        if (call.startsWith("tell") || call.startsWith("forget")) {
+            log.append(' ').append(call);
+        }
+        if (got != want) {
+            wrong++;
+            System.out.println("run " + run + ": " + log + ": " + call + " answered " + got + ", due is " + want);
+        }
+    }
+
+    private static final class Model {
+        final List<String> codes = new ArrayList<>();
+        final List<int[]> told = new ArrayList<>();
+        private final int length;
+        private final int[][] answers;
+        private final Map<String, Boolean> known = new HashMap<>();
+
+        Model(int length, int digits) {
+            this.length = Math.max(1, Math.min(4, length));
+            int base = Math.max(1, Math.min(3, digits));
+            codes.add("");
+            for (int p = 0; p < this.length; p++) {
+                List<String> longer = new ArrayList<>();
+                for (String c : codes) {
+                    for (int d = 0; d < base; d++) {
+                        longer.add(c + d);
+                    }
+                }
+                codes.clear();
+                codes.addAll(longer);
+            }
+            answers = new int[codes.size()][codes.size()];
+            for (int g = 0; g < codes.size(); g++) {
+                for (int s = 0; s < codes.size(); s++) {
+                    answers[g][s] = reply(codes.get(g), codes.get(s));
+                }
+            }
+        }
+
+        /** Strikes out what is alike, first at the same place, then elsewhere. */
+        private static int reply(String guess, String secret) {
+            StringBuilder g = new StringBuilder(guess);
+            StringBuilder s = new StringBuilder(secret);
+            int b = 0;
+            for (int p = g.length() - 1; p >= 0; p--) {
+                if (g.charAt(p) == s.charAt(p)) {
+                    b++;
+                    g.deleteCharAt(p);
+                    s.deleteCharAt(p);
+                }
+            }
+            int w = 0;
+            for (int p = 0; p < g.length(); p++) {
+                int at = s.indexOf(g.substring(p, p + 1));
+                if (at >= 0) {
+                    w++;
+                    s.deleteCharAt(at);
+                }
+            }
+            return 10 * b + w;
+        }
+
+        boolean isCode(int x) {
+            return x >= 0 && x < codes.size();
+        }
+
+        int answer(int g, int s) {
+            return answers[g][s];
+        }
+
+        int tell(int g, int b, int w) {
+            if (!isCode(g) || b < 0 || b > 4 || w < 0 || w > 4) {
+                return -1;
+            }
+            if (told.size() == 8) {
+                return -2;
+            }
+            told.add(new int[] {g, b, w});
+            return possible().size();
+        }
+
+        int forget() {
+            if (told.isEmpty()) {
+                return -3;
+            }
+            told.remove(told.size() - 1);
+            return possible().size();
+        }
+
+        List<Integer> possible() {
+            return possibleBy(told);
+        }
+
+        private List<Integer> possibleBy(List<int[]> records) {
+            List<Integer> left = new ArrayList<>();
+            for (int x = 0; x < codes.size(); x++) {
+                boolean all = true;
+                for (int[] r : records) {
+                    int a = answer(r[0], x);
+                    all &= a / 10 == r[1] && a % 10 == r[2];
+                }
+                if (all) {
+                    left.add(x);
+                }
+            }
+            return left;
+        }
+
+        int code(int i) {
+            List<Integer> left = possible();
+            return i >= 0 && i < left.size() ? left.get(i) : -3;
+        }
+
+        private Map<Integer, List<Integer>> split(int g, List<Integer> left) {
+            Map<Integer, List<Integer>> parts = new TreeMap<>();
+            for (int x : left) {
+                parts.computeIfAbsent(answer(g, x), a -> new ArrayList<>()).add(x);
+            }
+            return parts;
+        }
+
+        int parts(int g) {
+            return isCode(g) ? split(g, possible()).size() : -1;
+        }
+
+        int worst(int g) {
+            return !isCode(g) ? -1 : split(g, possible()).values().stream().mapToInt(List::size).max().orElse(0);
+        }
+
+        int weight(int g) {
+            return !isCode(g) ? -1 : split(g, possible()).values().stream().mapToInt(p -> p.size() * p.size()).sum();
+        }
+
+        int best(boolean byWeight) {
+            List<Integer> left = possible();
+            if (left.isEmpty()) {
+                return -3;
+            }
+            int[] score = new int[codes.size()];
+            int least = Integer.MAX_VALUE;
+            for (int g = 0; g < score.length; g++) {
+                score[g] = byWeight ? weight(g) : worst(g);
+                least = Math.min(least, score[g]);
+            }
+            for (int g : left) {
+                if (score[g] == least) {
+                    return g;
+                }
+            }
+            for (int g = 0; g < score.length; g++) {
+                if (score[g] == least) {
+                    return g;
+                }
+            }
+            throw new IllegalStateException();
+        }
+
+        /** Whether some way that begins with g comes to each of the codes with at most n guesses. */
+        private boolean enoughWith(int g, List<Integer> left, int n, boolean kept) {
+            for (Map.Entry<Integer, List<Integer>> part : split(g, left).entrySet()) {
+                if (part.getKey() != 10 * length && !enough(part.getValue(), n - 1, kept)) {
+                    return false;
+                }
+            }
+            return true;
+        }
+
+        private boolean enough(List<Integer> left, int n, boolean kept) {
+            if (left.isEmpty() || n == 0) {
+                return left.isEmpty();
+            }
+            String key = left + " " + n + " " + kept;
+            Boolean before = known.get(key);
+            if (before != null) {
+                return before;
+            }
+            boolean found = false;
+            for (int g = 0; g < codes.size() && !found; g++) {
+                found = (!kept || left.contains(g)) && enoughWith(g, left, n, kept);
+            }
+            known.put(key, found);
+            return found;
+        }
+
+        int need(boolean kept) {
+            List<Integer> left = possible();
+            if (left.size() > 8) {
+                return -4;
+            }
+            int n = 0;
+            while (!enough(left, n, kept)) {
+                n++;
+            }
+            return n;
+        }
+
+        int first() {
+            List<Integer> left = possible();
+            int n = need(false);
+            if (left.isEmpty() || n < 0) {
+                return left.isEmpty() ? -3 : n;
+            }
+            int g = 0;
+            while (!enoughWith(g, left, n, false)) {
+                g++;
+            }
+            return g;
+        }
+
+        int useful() {
+            int count = 0;
+            for (int i = 0; i < told.size(); i++) {
+                List<int[]> others = new ArrayList<>(told);
+                others.remove(i);
+                if (possibleBy(others).size() > possible().size()) {
+                    count++;
+                }
+            }
+            return count;
+        }
+    }
+}
