@@ -1,12 +1,17 @@
+import java.util.ArrayDeque;
 import java.util.ArrayList;
+import java.util.Deque;
 import java.util.HashMap;
+import java.util.HashSet;
 import java.util.List;
 import java.util.Map;
+import java.util.Set;
 import java.util.TreeMap;
 
 /**
- * Long runs of calls, each answer held against a plain model that is written from the document's
- * words, with lists and recursion, and shares no code with the class.
+ * Every set of possible codes that recorded guesses can come to, and long runs of calls: each
+ * answer is held against a plain model that is written from the document's words, with lists and
+ * recursion, and shares no code with the class.
  */
 public final class ModelTest {
     private static final int RUNS = 600;
@@ -18,6 +23,11 @@ public final class ModelTest {
     private static long seed = 20261115L;
 
     public static void main(String[] args) {
+        for (int length = 1; length <= 4; length++) {
+            for (int digits = 1; digits <= 3; digits++) {
+                everySet(length, digits);
+            }
+        }
         for (int run = 0; run < RUNS && wrong < 20; run++) {
             // Every pair of length and digits comes, and pairs that are out of range.
             int length = run % 13 == 12 ? pick(12) - 4 : 1 + run % 4;
@@ -28,6 +38,49 @@ public final class ModelTest {
         if (wrong != 0) {
             System.exit(1);
         }
+    }
+
+    /** Goes from set to set, each one by a shortest list of recorded guesses. */
+    private static void everySet(int length, int digits) {
+        Model m = new Model(length, digits);
+        Set<List<Integer>> seen = new HashSet<>();
+        Deque<List<int[]>> ahead = new ArrayDeque<>();
+        seen.add(m.possible());
+        ahead.add(List.of());
+        while (!ahead.isEmpty() && wrong < 20) {
+            List<int[]> records = ahead.remove();
+            m.told.clear();
+            m.told.addAll(records);
+            List<Integer> left = m.possible();
+            oneSet(new CodeBreaker(length, digits), m, left);
+            for (int g = 0; g < m.codes.size() && records.size() < 8; g++) {
+                for (Map.Entry<Integer, List<Integer>> part : m.split(g, left).entrySet()) {
+                    if (seen.add(part.getValue())) {
+                        List<int[]> more = new ArrayList<>(records);
+                        more.add(new int[] {g, part.getKey() / 10, part.getKey() % 10});
+                        ahead.add(more);
+                    }
+                }
+            }
+        }
+    }
+
+    private static void oneSet(CodeBreaker x, Model m, List<Integer> left) {
+        StringBuilder log = new StringBuilder("codes " + x.codes());
+        for (int[] r : m.told) {
+            x.tell(r[0], r[1], r[2]);
+            log.append(" tell(" + r[0] + ", " + r[1] + ", " + r[2] + ")");
+        }
+        due(-1, log, "possible()", x.possible(), left.size());
+        for (int i = 0; i < left.size(); i++) {
+            due(-1, log, "code(" + i + ")", x.code(i), left.get(i));
+        }
+        due(-1, log, "need()", x.need(), m.need(false));
+        due(-1, log, "needKept()", x.needKept(), m.need(true));
+        due(-1, log, "first()", x.first(), m.first());
+        due(-1, log, "safest()", x.safest(), m.best(false));
+        due(-1, log, "sharpest()", x.sharpest(), m.best(true));
+        due(-1, log, "useful()", x.useful(), m.useful());
     }
 
     /** A fixed row of numbers, the same in every run of the test. */
@@ -96,7 +149,7 @@ public final class ModelTest {
         }
         if (got != want) {
             wrong++;
-            System.out.println("run " + run + ": " + log + ": " + call + " answered " + got + ", due is " + want);
+            System.out.println((run < 0 ? "set" : "run " + run) + ": " + log + ": " + call + " answered " + got + ", due is " + want);
         }
     }
 
@@ -203,7 +256,7 @@ public final class ModelTest {
             return i >= 0 && i < left.size() ? left.get(i) : -3;
         }
 
-        private Map<Integer, List<Integer>> split(int g, List<Integer> left) {
+        Map<Integer, List<Integer>> split(int g, List<Integer> left) {
             Map<Integer, List<Integer>> parts = new TreeMap<>();
             for (int x : left) {
                 parts.computeIfAbsent(answer(g, x), a -> new ArrayList<>()).add(x);
@@ -216,11 +269,19 @@ public final class ModelTest {
         }
 
         int worst(int g) {
-            return !isCode(g) ? -1 : split(g, possible()).values().stream().mapToInt(List::size).max().orElse(0);
+            return isCode(g) ? worst(g, possible()) : -1;
+        }
+
+        private int worst(int g, List<Integer> left) {
+            return split(g, left).values().stream().mapToInt(List::size).max().orElse(0);
         }
 
         int weight(int g) {
-            return !isCode(g) ? -1 : split(g, possible()).values().stream().mapToInt(p -> p.size() * p.size()).sum();
+            return isCode(g) ? weight(g, possible()) : -1;
+        }
+
+        private int weight(int g, List<Integer> left) {
+            return split(g, left).values().stream().mapToInt(p -> p.size() * p.size()).sum();
         }
 
         int best(boolean byWeight) {
@@ -231,7 +292,7 @@ public final class ModelTest {
             int[] score = new int[codes.size()];
             int least = Integer.MAX_VALUE;
             for (int g = 0; g < score.length; g++) {
-                score[g] = byWeight ? weight(g) : worst(g);
+                score[g] = byWeight ? weight(g, left) : worst(g, left);
                 least = Math.min(least, score[g]);
             }
             for (int g : left) {
