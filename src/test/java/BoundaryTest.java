@@ -101,7 +101,7 @@ public final class BoundaryTest {
     private static void terms() {
         constants();
         eachShape("Codes are 0 to C to the power L less 1", BoundaryTest::codeRange);
-        firstDigitIsHighest();
+        digitsOfCodes();
         eachShape("The ANSWER is 10 b + w", BoundaryTest::answerRange);
         lesserNumberOfTimes();
         eachShape("b and w from 0 to 4, also one that can't be", BoundaryTest::everyAnswer);
@@ -133,8 +133,9 @@ public final class BoundaryTest {
         due("code(0)", x.code(0), 0);
     }
 
-    private static void firstDigitIsHighest() {
-        sentence = "the first one the highest";
+    /** Which end is the first one no call can tell: all codes turned round give the same answers. */
+    private static void digitsOfCodes() {
+        sentence = "code x has, as a number in base C with L digits, these digits";
         CodeBreaker x = new CodeBreaker(4, 3);
         // Each digit of its own: 1 is 0001, 27 is 1000; they differ at the first and last place.
         due("answer(1, 27)", x.answer(1, 27), 22);
@@ -652,8 +653,12 @@ public final class BoundaryTest {
         needs(x, 0, 0, NONE);
     }
 
+    /**
+     * "Would still be" has no case of its own: for no set of codes that can come does a guess that
+     * was possible, and is no longer, make needKept less.
+     */
     private static void keptOrNot() {
-        sentence = "needKept: each guess is a code that is possible, and would still be";
+        sentence = "needKept: each guess is a code that is possible";
         // One 1 of four digits: each of the four parts off itself alone; 0011 makes two pairs.
         needs(with(4, 2, 15, 1, 0), 3, 4, 3);
         // Two 1 of four digits 0 and 1: 0000 parts nothing; 0001 makes two parts of three.
