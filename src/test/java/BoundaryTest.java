@@ -409,6 +409,7 @@ public final class BoundaryTest {
         due("forget() of none", x.forget(), NONE);
         due("told()", x.told(), 0);
         eighthIsForgotten();
+        forgottenIsNothing();
     }
 
     private static void forgetOfNone(int length, int digits, int count) {
@@ -444,6 +445,18 @@ public final class BoundaryTest {
         due("code(0)", x.code(0), 2);
         due("tell 9", x.tell(1, 2, 0), FULL);
         due("code(0)", x.code(0), 2);
+    }
+
+    private static void forgottenIsNothing() {
+        sentence = "The last recorded guess is forgotten: it is nothing to later answers";
+        CodeBreaker x = with(3, 3, 0, 3, 0);
+        needs(x, 1, 1, 0);
+        due("forget()", x.forget(), 27);
+        // 100, 101, 121, 200, 220 and 221.
+        due("tell(012, 0, 2)", x.tell(num("012"), 0, 2), 6);
+        due("tell(120, 1, 1)", x.tell(num("120"), 1, 1), 3);
+        // 101, 200 and 221 answer 1 b to each other; only 000, which can't be any more, parts them.
+        needs(x, 2, 3, 0);
     }
 
     // Promises 6 and 7

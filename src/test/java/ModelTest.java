@@ -9,9 +9,10 @@ import java.util.Set;
 import java.util.TreeMap;
 
 /**
- * Every set of possible codes that recorded guesses can come to, and long runs of calls: each
- * answer is held against a plain model that is written from the document's words, with lists and
- * recursion, and shares no code with the class.
+ * All answers, every recorded guess by itself, every pair of them where there are few codes, every
+ * set of possible codes that recorded guesses can come to, and long runs of calls: each answer is
+ * held against a plain model that is written from the document's words, with lists and recursion,
+ * and shares no code with the class.
  */
 public final class ModelTest {
     private static final int RUNS = 600;
@@ -25,6 +26,8 @@ public final class ModelTest {
     public static void main(String[] args) {
         for (int length = 1; length <= 4; length++) {
             for (int digits = 1; digits <= 3; digits++) {
+                everyAnswer(length, digits);
+                everyTell(length, digits);
                 everySet(length, digits);
             }
         }
@@ -40,6 +43,55 @@ public final class ModelTest {
         }
     }
 
+    private static void everyAnswer(int length, int digits) {
+        Model m = new Model(length, digits);
+        for (int g = 0; g < m.codes.size(); g++) {
+            // A new one for each guess, so that none is used for more than 512 calls.
+            CodeBreaker x = new CodeBreaker(length, digits);
+            for (int s = 0; s < m.codes.size(); s++) {
+                due(-1, log(x), "answer(" + g + ", " + s + ")", x.answer(g, s), m.answer(g, s));
+            }
+        }
+    }
+
+    /** Every code with every answer, also those that can't be; of few codes, every two of these. */
+    private static void everyTell(int length, int digits) {
+        Model m = new Model(length, digits);
+        List<int[]> all = new ArrayList<>();
+        for (int at = 0; at < 25 * m.codes.size(); at++) {
+            all.add(new int[] {at / 25, at / 5 % 5, at % 5});
+        }
+        for (int i = 0; i < all.size() && wrong < 20; i++) {
+            oneSet(new CodeBreaker(length, digits), m, List.of(all.get(i)));
+            for (int j = 0; j < all.size() && m.codes.size() <= 9; j++) {
+                twoTells(new CodeBreaker(length, digits), m, all.get(i), all.get(j));
+            }
+        }
+    }
+
+    private static void twoTells(CodeBreaker x, Model m, int[] one, int[] other) {
+        m.told.clear();
+        StringBuilder log = log(x);
+        tellAll(x, m, List.of(one, other), log);
+        due(-1, log, "told()", x.told(), 2);
+        due(-1, log, "useful()", x.useful(), m.useful());
+        due(-1, log, "code(0)", x.code(0), m.code(0));
+        due(-1, log, "forget()", x.forget(), m.forget());
+        due(-1, log, "useful()", x.useful(), m.useful());
+        due(-1, log, "code(0)", x.code(0), m.code(0));
+    }
+
+    private static void tellAll(CodeBreaker x, Model m, List<int[]> records, StringBuilder log) {
+        for (int[] r : records) {
+            String call = "tell(" + r[0] + ", " + r[1] + ", " + r[2] + ")";
+            due(-1, log, call, x.tell(r[0], r[1], r[2]), m.tell(r[0], r[1], r[2]));
+        }
+    }
+
+    private static StringBuilder log(CodeBreaker x) {
+        return new StringBuilder("codes " + x.codes());
+    }
+
     /** Goes from set to set, each one by a shortest list of recorded guesses. */
     private static void everySet(int length, int digits) {
         Model m = new Model(length, digits);
@@ -49,10 +101,9 @@ public final class ModelTest {
         ahead.add(List.of());
         while (!ahead.isEmpty() && wrong < 20) {
             List<int[]> records = ahead.remove();
-            m.told.clear();
-            m.told.addAll(records);
+            oneSet(new CodeBreaker(length, digits), m, records);
+            sameAfterOthers(new CodeBreaker(length, digits), m, records);
             List<Integer> left = m.possible();
-            oneSet(new CodeBreaker(length, digits), m, left);
             for (int g = 0; g < m.codes.size() && records.size() < 8; g++) {
                 for (Map.Entry<Integer, List<Integer>> part : m.split(g, left).entrySet()) {
                     if (seen.add(part.getValue())) {
@@ -65,22 +116,46 @@ public final class ModelTest {
         }
     }
 
-    private static void oneSet(CodeBreaker x, Model m, List<Integer> left) {
-        StringBuilder log = new StringBuilder("codes " + x.codes());
-        for (int[] r : m.told) {
-            x.tell(r[0], r[1], r[2]);
-            log.append(" tell(" + r[0] + ", " + r[1] + ", " + r[2] + ")");
-        }
+    /** All questions but answer, with these recorded guesses; at most 512 calls. */
+    private static void oneSet(CodeBreaker x, Model m, List<int[]> records) {
+        m.told.clear();
+        StringBuilder log = log(x);
+        tellAll(x, m, records, log);
+        List<Integer> left = m.possible();
+        due(-1, log, "told()", x.told(), records.size());
         due(-1, log, "possible()", x.possible(), left.size());
-        for (int i = 0; i < left.size(); i++) {
-            due(-1, log, "code(" + i + ")", x.code(i), left.get(i));
-        }
         due(-1, log, "need()", x.need(), m.need(false));
         due(-1, log, "needKept()", x.needKept(), m.need(true));
         due(-1, log, "first()", x.first(), m.first());
         due(-1, log, "safest()", x.safest(), m.best(false));
         due(-1, log, "sharpest()", x.sharpest(), m.best(true));
         due(-1, log, "useful()", x.useful(), m.useful());
+        for (int g = 0; g < m.codes.size(); g++) {
+            due(-1, log, "code(" + g + ")", x.code(g), g < left.size() ? left.get(g) : -3);
+            due(-1, log, "canBe(" + g + ")", x.canBe(g) ? 1 : 0, left.contains(g) ? 1 : 0);
+            due(-1, log, "parts(" + g + ")", x.parts(g), m.parts(g));
+            due(-1, log, "worst(" + g + ")", x.worst(g), m.worst(g));
+            due(-1, log, "weight(" + g + ")", x.weight(g), m.weight(g));
+        }
+    }
+
+    /** What was recorded and asked before, and is forgotten, is nothing to any answer. */
+    private static void sameAfterOthers(CodeBreaker x, Model m, List<int[]> records) {
+        m.told.clear();
+        StringBuilder log = log(x).append(", each code told and forgotten,");
+        for (int c = 0; c < m.codes.size(); c++) {
+            x.tell(c, m.length, 0);
+            due(-1, log, "needKept() of " + c, x.needKept(), 1);
+            x.forget();
+        }
+        tellAll(x, m, records, log);
+        due(-1, log, "needKept()", x.needKept(), m.need(true));
+        due(-1, log, "need()", x.need(), m.need(false));
+        due(-1, log, "first()", x.first(), m.first());
+        due(-1, log, "safest()", x.safest(), m.best(false));
+        due(-1, log, "sharpest()", x.sharpest(), m.best(true));
+        due(-1, log, "useful()", x.useful(), m.useful());
+        due(-1, log, "code(0)", x.code(0), m.code(0));
     }
 
     /** A fixed row of numbers, the same in every run of the test. */
