@@ -740,6 +740,34 @@ public final class BoundaryTest {
         lastCall("needKept()", CodeBreaker::needKept, 2);
         lastCall("first()", CodeBreaker::first, 0);
         lastCall("useful()", CodeBreaker::useful, 1);
+        sentence = "at most 512 calls, all of one kind";
+        onlyCall("codes()", CodeBreaker::codes, 8);
+        onlyCall("answer(0, 1)", x -> x.answer(0, 1), 20);
+        onlyCall("tell(8, 0, 0)", x -> x.tell(8, 0, 0), BAD_ARG);
+        onlyCall("forget()", CodeBreaker::forget, NONE);
+        onlyCall("told()", CodeBreaker::told, 0);
+        onlyCall("possible()", CodeBreaker::possible, 8);
+        onlyCall("code(7)", x -> x.code(7), 7);
+        onlyCall("canBe(7)", x -> x.canBe(7) ? 1 : 0, 1);
+        // By the number of 0: 1, 3, 3 and 1 codes.
+        onlyCall("parts(0)", x -> x.parts(0), 4);
+        onlyCall("worst(0)", x -> x.worst(0), 3);
+        onlyCall("weight(0)", x -> x.weight(0), 20);
+        onlyCall("safest()", CodeBreaker::safest, 0);
+        // 001 makes parts of 1, 1, 1, 2 and 3 codes.
+        onlyCall("sharpest()", CodeBreaker::sharpest, 1);
+        onlyCall("need()", CodeBreaker::need, 3);
+        onlyCall("needKept()", CodeBreaker::needKept, 3);
+        onlyCall("first()", CodeBreaker::first, 1);
+        onlyCall("useful()", CodeBreaker::useful, 0);
+    }
+
+    /** The call, which changes nothing, is made 512 times on a new object with 8 codes. */
+    private static void onlyCall(String name, ToIntFunction<CodeBreaker> call, int want) {
+        CodeBreaker x = new CodeBreaker(3, 2);
+        for (int i = 1; i <= 512; i++) {
+            due(name + " as call " + i, call.applyAsInt(x), want);
+        }
     }
 
     /** 12 and 20 are possible, as after the first call; the call in question is the 512th. */

@@ -1,5 +1,6 @@
 import java.util.ArrayDeque;
 import java.util.ArrayList;
+import java.util.Comparator;
 import java.util.Deque;
 import java.util.HashMap;
 import java.util.HashSet;
@@ -17,6 +18,8 @@ import java.util.TreeMap;
 public final class ModelTest {
     private static final int RUNS = 600;
     private static final int CALLS = 512;
+    /** With up to 8 recorded guesses and 8 questions, one object has calls for so many sets. */
+    private static final int SETS_OF_ONE = 20;
     private static final int[] ODD = {
         Integer.MIN_VALUE, -2, -1, 5, 9, 80, 81, 82, 1 << 16, Integer.MAX_VALUE};
 
@@ -97,15 +100,16 @@ public final class ModelTest {
         Model m = new Model(length, digits);
         Set<List<Integer>> seen = new HashSet<>();
         Deque<List<int[]>> ahead = new ArrayDeque<>();
+        List<Due> found = new ArrayList<>();
         seen.add(m.possible());
         ahead.add(List.of());
         while (!ahead.isEmpty() && wrong < 20) {
             List<int[]> records = ahead.remove();
-            oneSet(new CodeBreaker(length, digits), m, records);
-            sameAfterOthers(new CodeBreaker(length, digits), m, records);
-            List<Integer> left = m.possible();
+            Due due = oneSet(new CodeBreaker(length, digits), m, records);
+            sameAfterOthers(new CodeBreaker(length, digits), m, due);
+            found.add(due);
             for (int g = 0; g < m.codes.size() && records.size() < 8; g++) {
-                for (Map.Entry<Integer, List<Integer>> part : m.split(g, left).entrySet()) {
+                for (Map.Entry<Integer, List<Integer>> part : m.split(g, due.left).entrySet()) {
                     if (seen.add(part.getValue())) {
                         List<int[]> more = new ArrayList<>(records);
                         more.add(new int[] {g, part.getKey() / 10, part.getKey() % 10});
@@ -114,33 +118,49 @@ public final class ModelTest {
                 }
             }
         }
+        oneAfterOther(length, digits, m, found);
+    }
+
+    /** What is due to the questions without a number, with these recorded guesses. */
+    private record Due(List<int[]> told, List<Integer> left, int need, int needKept, int first,
+            int safest, int sharpest, int useful) {
+        static Due of(Model m) {
+            return new Due(List.copyOf(m.told), m.possible(), m.need(false), m.need(true), m.first(),
+                    m.best(false), m.best(true), m.useful());
+        }
+
+        void check(CodeBreaker x, StringBuilder log) {
+            due(-1, log, "told()", x.told(), told.size());
+            due(-1, log, "possible()", x.possible(), left.size());
+            due(-1, log, "need()", x.need(), need);
+            due(-1, log, "needKept()", x.needKept(), needKept);
+            due(-1, log, "first()", x.first(), first);
+            due(-1, log, "safest()", x.safest(), safest);
+            due(-1, log, "sharpest()", x.sharpest(), sharpest);
+            due(-1, log, "useful()", x.useful(), useful);
+        }
     }
 
     /** All questions but answer, with these recorded guesses; at most 512 calls. */
-    private static void oneSet(CodeBreaker x, Model m, List<int[]> records) {
+    private static Due oneSet(CodeBreaker x, Model m, List<int[]> records) {
         m.told.clear();
         StringBuilder log = log(x);
         tellAll(x, m, records, log);
-        List<Integer> left = m.possible();
-        due(-1, log, "told()", x.told(), records.size());
-        due(-1, log, "possible()", x.possible(), left.size());
-        due(-1, log, "need()", x.need(), m.need(false));
-        due(-1, log, "needKept()", x.needKept(), m.need(true));
-        due(-1, log, "first()", x.first(), m.first());
-        due(-1, log, "safest()", x.safest(), m.best(false));
-        due(-1, log, "sharpest()", x.sharpest(), m.best(true));
-        due(-1, log, "useful()", x.useful(), m.useful());
+        Due due = Due.of(m);
+        due.check(x, log);
         for (int g = 0; g < m.codes.size(); g++) {
-            due(-1, log, "code(" + g + ")", x.code(g), g < left.size() ? left.get(g) : -3);
-            due(-1, log, "canBe(" + g + ")", x.canBe(g) ? 1 : 0, left.contains(g) ? 1 : 0);
+            int atG = g < due.left.size() ? due.left.get(g) : -3;
+            due(-1, log, "code(" + g + ")", x.code(g), atG);
+            due(-1, log, "canBe(" + g + ")", x.canBe(g) ? 1 : 0, due.left.contains(g) ? 1 : 0);
             due(-1, log, "parts(" + g + ")", x.parts(g), m.parts(g));
             due(-1, log, "worst(" + g + ")", x.worst(g), m.worst(g));
             due(-1, log, "weight(" + g + ")", x.weight(g), m.weight(g));
         }
+        return due;
     }
 
     /** What was recorded and asked before, and is forgotten, is nothing to any answer. */
-    private static void sameAfterOthers(CodeBreaker x, Model m, List<int[]> records) {
+    private static void sameAfterOthers(CodeBreaker x, Model m, Due due) {
         m.told.clear();
         StringBuilder log = log(x).append(", each code told and forgotten,");
         for (int c = 0; c < m.codes.size(); c++) {
@@ -148,14 +168,27 @@ public final class ModelTest {
             due(-1, log, "needKept() of " + c, x.needKept(), 1);
             x.forget();
         }
-        tellAll(x, m, records, log);
-        due(-1, log, "needKept()", x.needKept(), m.need(true));
-        due(-1, log, "need()", x.need(), m.need(false));
-        due(-1, log, "first()", x.first(), m.first());
-        due(-1, log, "safest()", x.safest(), m.best(false));
-        due(-1, log, "sharpest()", x.sharpest(), m.best(true));
-        due(-1, log, "useful()", x.useful(), m.useful());
-        due(-1, log, "code(0)", x.code(0), m.code(0));
+        tellAll(x, m, due.told, log);
+        due.check(x, log);
+    }
+
+    /** One object comes to many sets, those next that are alike in size, least and greatest code. */
+    private static void oneAfterOther(int length, int digits, Model m, List<Due> found) {
+        List<Due> row = new ArrayList<>(found);
+        row.sort(Comparator.<Due>comparingInt(d -> d.left.size()).thenComparing(d -> d.left.get(0))
+                .thenComparing(d -> d.left.get(d.left.size() - 1)));
+        for (int from = 0; from < row.size() && wrong < 20; from += SETS_OF_ONE - 1) {
+            CodeBreaker x = new CodeBreaker(length, digits);
+            StringBuilder log = log(x);
+            m.told.clear();
+            for (Due due : row.subList(from, Math.min(from + SETS_OF_ONE, row.size()))) {
+                tellAll(x, m, due.told, log);
+                due.check(x, log);
+                while (!m.told.isEmpty()) {
+                    due(-1, log, "forget()", x.forget(), m.forget());
+                }
+            }
+        }
     }
 
     /** A fixed row of numbers, the same in every run of the test. */
